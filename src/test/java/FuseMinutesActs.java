@@ -13,6 +13,7 @@ public final class FuseMinutesActs {
         renew();
         burn();
         oddRest();
+        fourInAMinute();
         minute();
         lastMinutes();
         shifts();
@@ -224,6 +225,39 @@ public final class FuseMinutesActs {
         D.due("out at the 24th", x.book(x.book(-1, 0) - 1, 0), 32 + 16 + 8 + 4 + 30 + 17 + 24);
     }
 
+    /** CORDS of 48, 64, 32, 16 that go out amid one MINUTE, the last three by both ends. */
+    private static void fourInAMinute() {
+        D.promise(13);
+        FuseMinutes x = Dues.with(1, 1, 1, 1);
+        x.hands(8);
+        for (int cord = 0; cord < 4; cord++) x.light(cord, false);
+        x.light(0, true);
+        x.burn();
+        x.snuff(2, false);
+        x.renew(0);
+        x.light(0, false);
+        x.light(1, true);
+        x.burn();
+        x.snuff(0, false);
+        x.snuff(3, false);
+        x.renew(1);
+        D.due("rests", x.of(0, 2) * 10000 + x.of(2, 2) * 100 + x.of(3, 2), 483216);
+        x.light(0, false);
+        for (int cord = 1; cord < 4; cord++) {
+            x.light(cord, false);
+            x.light(cord, true);
+        }
+        int sparks = x.is(0);
+        int lines = x.book(-1, 0);
+        D.due("minute(1)", x.minute(1), 4);
+        int[][] due = {{8, 3}, {16, 2}, {32, 1}, {48, 0}};
+        for (int i = 0; i < 4; i++) {
+            D.due("SPARKS of " + i, x.book(lines + i, 0) - sparks, due[i][0]);
+            D.due("CORD of " + i, x.book(lines + i, 1), due[i][1]);
+        }
+        D.due("is(0)", x.is(0) - sparks, 64);
+    }
+
     private static void minute() {
         D.promise(13);
         FuseMinutes x = Dues.with(1, 2, 5);
@@ -320,6 +354,18 @@ public final class FuseMinutesActs {
         x.light(1, false);
         x.shifts(14, 1);
         D.due("of(1, 3)", x.of(1, 3), 2);
+        x = Dues.with(5, 9, 3);
+        // Kinds 1 and 2: 323 is 1 mod 7, 46 is even; 331 is 2, 47 is odd; CORDS 2 and 1 of 3.
+        x.shifts(6, 1);
+        D.due("left of CORD 2", x.of(2, 3), 1);
+        x.shifts(10, 1);
+        D.due("right of CORD 1", x.of(1, 3), 2);
+        D.due("HANDS count in shifts", x.is(2), 2);
+        x.shifts(6 + 21, 1);
+        D.due("they do", x.burning(), 6);
+        x = Dues.with(5);
+        x.shifts(2, 1);
+        D.due("one CORD", x.of(0, 3), 2);
         x = new FuseMinutes();
         D.due("no CORDS: shifts(2, 1)", x.shifts(2, 1), 0);
         D.due("is(1)", x.is(1), draw(315));
@@ -434,6 +480,10 @@ public final class FuseMinutesActs {
         D.due("the eldest of these", x.book(0, 2), 2);
         D.due("the eldest of these", x.book(0, 0), 64);
         D.due("the latest", x.book(29, 0), 29 * 64);
+        // Behind the SNUFFED one: LIT in the 2nd MINUTE, LIT and OUT in the 3rd, then LIT in each of the others.
+        D.due("book(1, 0)", x.book(1, 0), 128);
+        D.due("book(2, 2)", x.book(2, 2), 3);
+        for (int i = 3; i < 30; i++) D.due("book(" + i + ", 0)", x.book(i, 0), i * 64);
     }
 
     private static void foretold() {
@@ -489,6 +539,12 @@ public final class FuseMinutesActs {
         x.hands(8);
         D.promise(43);
         D.due("longest()", x.longest(), 1);
+        D.due("longest() of the first", Dues.with(3, 3, 2).longest(), 0);
+        D.promise(44);
+        FuseMinutes y = Dues.with(3, 5);
+        y.light(0, true);
+        D.due("burning()", y.burning(), 1);
+        D.promise(43);
         D.due("longest() of none", new FuseMinutes().longest(), -1);
         D.promise(44);
         D.due("burning()", x.burning(), 0);
@@ -546,7 +602,19 @@ public final class FuseMinutesActs {
         D.due("is(0)", x.is(0), 0);
         D.due("back() once more: it stays", x.back(), 64);
         D.due("undo()", x.undo(), 1);
+        x.minute(40);
+        x.image();
+        x.minute(17);
+        for (int i = 0; i < 20; i++) x.undo();
+        x.back();
+        for (int i = 1; i <= 30; i++) {
+            x.undo();
+            D.due("is(0) behind " + i, x.is(0), (40 - i) * 64);
+        }
+        D.due("undo()", x.undo(), -1);
+        x.back();
         D.promise(47);
+        x = Dues.with(4);
         D.due("image()", x.image(), 0);
         x.minute(5);
         D.promise(48);

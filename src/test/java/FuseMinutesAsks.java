@@ -89,6 +89,10 @@ public final class FuseMinutesAsks {
         y.cord(2, 20);
         y.cord(4, 30);
         D.due("of like ones the fewest", y.cheapest(256), 4);
+        D.due("by all of them", y.cheapest(512), 7);
+        D.promise(25);
+        D.due("by all of them", y.fewest(512), 7);
+        D.promise(26);
         FuseMinutes z = new FuseMinutes();
         z.cord(2, 0);
         z.cord(2, 0);
@@ -132,6 +136,9 @@ public final class FuseMinutesAsks {
         D.due("another one amid them", x.row(3, 160, 1), 3);
         x.spans(7, -1);
         D.due("and again", x.row(3, 160, 0), 2);
+        x.spans(5, -1);
+        D.due("of a set that can't", x.row(1, 160, -1), -2);
+        D.due("of a set that can't", x.row(2, 160, -1), -2);
     }
 
     private static void between() {
@@ -153,6 +160,13 @@ public final class FuseMinutesAsks {
         int[][] others = {{3, 0}, {3, -1}, {3, 15361}, {3, BIG}, {3, LOW}, {0, 64}, {4, 64}, {-1, 64}, {BIG, 64}, {LOW, 64}};
         for (int[] o : others) D.due("nearest(" + o[0] + ", " + o[1] + ")", x.nearest(o[0], o[1]), -1);
         D.due("far off", Dues.with(60).nearest(1, 1), 1920);
+        FuseMinutes y = Dues.with(60, 59, 13);
+        int i = 0;
+        for (int span = 1; span <= 9000; span += 21) {
+            int count = y.spans(7, -1);
+            while (i + 1 < count && y.spans(7, i + 1) - span < span - y.spans(7, i)) i++;
+            D.due("nearest(7, " + span + ")", y.nearest(7, span), y.spans(7, i));
+        }
     }
 
     private static void want() {
@@ -303,6 +317,14 @@ public final class FuseMinutesAsks {
         D.promise(38);
         FuseMinutes x = Dues.with(1);
         D.due("test() of one CORD", x.test(), 1);
+        x = Dues.with(1, 1, 1);
+        x.tried(1, true);
+        D.due("test() of what is open yet", x.test(), 2);
+        x.tried(2, true);
+        D.due("test() of what is open yet", x.test(), 4);
+        x = Dues.with(1, 1, 1, 1);
+        x.tried(3, true);
+        D.due("6 of 12 rather than 8", x.test(), 4);
         x = Dues.with(1, 1, 1, 1);
         // Each of two apart halves what is left; of such the lowest.
         D.due("test() of four", x.test(), 1);

@@ -18,6 +18,7 @@ public final class FuseMinutesTexts {
         playedEnds();
         law();
         values();
+        outOfFirst();
         asks();
         saidAndWhose();
         D.end();
@@ -116,6 +117,13 @@ public final class FuseMinutesTexts {
         read("Burn;", 1, 0);
         read("burns;", 1, 0);
         read("bur;", 1, 0);
+        read("burnz;", 1, 0);
+        read("burnZ;", 1, 0);
+        read("zburn;", 1, 0);
+        read("Aburn;", 1, 0);
+        read("burn;Z", 1, 5);
+        read("lights 1Z;", 1, 8);
+        read("lights 1{;", 1, 8);
         read("bu rn;", 1, 0);
         read(";", 1, 0);
         read("7;", 1, 0);
@@ -390,6 +398,9 @@ public final class FuseMinutesTexts {
         value("if 1=2 or 1=1 and 1=2 then 5 else 6 end", 6);
         value("if 1=2 or 1=2 or 3=3 then 5 else 6 end", 5);
         value("if 1=1 and 2=2 and 3=4 then 5 else 6 end", 6);
+        value("if 1=1 and 2=2 then 5 else 6 end", 5);
+        value("if 1=2 and 2=2 then 5 else 6 end", 6);
+        value("if 1=2 and 2=3 then 5 else 6 end", 6);
         value("if not 1=2 then 5 else 6 end", 5);
         value("if not 1=2 and 1=2 then 5 else 6 end", 6);
         value("if not 1=1 or 1=1 then 5 else 6 end", 5);
@@ -397,6 +408,18 @@ public final class FuseMinutesTexts {
         value("if 1+1=2 then 5 else 6 end*2", 10);
         value("if out 2=1 then if rest>3 then 1 else 2 end else 3 end", 2);
         value("1+if 1=2 then 7/0 else 8 end", 9);
+    }
+
+    private static void outOfFirst() {
+        D.promise(18);
+        FuseMinutes x = Dues.ruled("lights 1+out 0*8+out 1*20;", 1, 2);
+        D.due("none is out", x.law(1, false, true), 1);
+        x.light(0, false);
+        x.minute(1);
+        D.due("CORD 0 is out", x.law(1, false, true), 9);
+        x.light(1, false);
+        x.burn();
+        D.due("both are", x.law(0, false, true), 29);
     }
 
     private static void saidAndWhose() {
@@ -432,5 +455,11 @@ public final class FuseMinutesTexts {
         x.said(-1, 0);
         x.said(1, 10);
         D.due("10 at most", x.whose(), 8);
+        x = Dues.with(5, 9);
+        Dues.text(x, "fails 9-cord*9;");
+        x.said(1, 0);
+        D.due("said(1, 0)", x.whose(), 1);
+        x.said(0, 9);
+        D.due("said(0, 9)", x.whose(), 1);
     }
 }
