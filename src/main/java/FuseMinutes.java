@@ -1089,14 +1089,14 @@ public final class FuseMinutes {
             }
         }
 
-        private void readClause(int number) {
+        private void readClause(int count) {
             int kind = token;
             boolean isLaw = kind == LIGHTS || kind == FAILS;
             if (kind < LIGHTS || kind > MINUTE || kind == PRICE) {
                 fail(1);
             } else if (isLaw && text.rules(kind - LIGHTS)) {
                 fail(4);
-            } else if (number >= MOST_CLAUSES) {
+            } else if (count >= MOST_CLAUSES) {
                 fail(6);
             } else {
                 next();
@@ -1391,7 +1391,9 @@ public final class FuseMinutes {
                 if (base < 0 || base + 3 > stack.length) {
                     return 0;
                 }
-                stack[base] = limited(taken == 0 ? leaf(item) : result(-item, stack[base], stack[base + 1], stack[base + 2]));
+                // A sign that takes fewer than three never looks at the rest.
+                long value = taken == 0 ? leaf(item) : result(-item, stack[base], stack[base + 1], stack[base + 2]);
+                stack[base] = limited(value);
                 top = base + 1;
             }
             return stack[0];
@@ -1790,7 +1792,8 @@ public final class FuseMinutes {
 
     /** Two crews that take CORDS by turns; which sets give a crew its SPAN is told by bits. */
     private static final class Crews {
-        static int outcome(int own, int others, int givingOwn, int givingOthers, int all) {
+        /** For the crew whose turn it is; what is free gets less with each turn, so it ends. */
+        private static int outcome(int own, int others, int givingOwn, int givingOthers, int all) {
             int free = all & ~(own | others);
             if (free == 0) {
                 return 0;
