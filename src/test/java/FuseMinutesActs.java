@@ -361,6 +361,12 @@ public final class FuseMinutesActs {
         x.shifts(10, 1);
         D.due("right of CORD 1", x.of(1, 3), 2);
         D.due("HANDS count in shifts", x.is(2), 2);
+        x.minute(1);
+        // 351 is 1 mod 7, 50 is even: left of CORD 0.
+        x.shifts(20, 1);
+        D.due("left of CORD 0", x.of(0, 3), 1);
+        x.undo();
+        x.undo();
         x.shifts(6 + 21, 1);
         D.due("they do", x.burning(), 6);
         x = Dues.with(5);
@@ -630,11 +636,17 @@ public final class FuseMinutesActs {
         x.said(0, 1);
         x.image();
         x.cord(9, 9);
+        D.due("can(2, 576)", x.can(2, 576), true);
+        D.due("row(2, 576, 0)", x.row(2, 576, 0), 3);
         x.by(Dues.text(x, "fails 2;"));
         x.hands(5);
         x.wet(0, false);
+        x.want(-1);
+        x.want(64);
         x.want(256);
         x.tried(-1, false);
+        x.tried(2, true);
+        x.said(-1, 0);
         x.said(0, 2);
         x.light(0, true);
         D.due("spans(3, -1) of 4 and 9", x.can(3, 832), true);
@@ -650,9 +662,12 @@ public final class FuseMinutesActs {
         D.due("the latest FAULT stays", x.fault(0) * 100 + x.fault(1), 106);
         D.due("suspects(3)", x.suspects(3), 1);
         D.due("part(0)", x.part(0), 1);
+        D.due("whose()", x.whose(), 1);
         D.due("the tape stays", x.text(), 1);
         D.due("another CORD 1", x.cord(3, 3), 1);
         D.due("of(1, 2)", x.of(1, 2), 192);
+        D.due("its SPANS are its own", x.can(2, 576), false);
+        D.due("its ROWS are its own", x.row(2, 576, 0), -2);
         D.due("its SPANS are its own", x.can(3, 832), false);
         D.due("its SPANS are its own", x.can(3, 448), true);
         D.due("undo() of none", x.undo(), -1);

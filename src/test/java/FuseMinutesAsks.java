@@ -311,6 +311,7 @@ public final class FuseMinutesAsks {
         x.cord(1, 1);
         dueSuspects(x, 10, 0, 0, 3, 8);
         dueSuspects(new FuseMinutes(), 1, 0, 0, 0, -1);
+        dueSuspects(Dues.with(1), 2, 0, 0, 0, 1);
     }
 
     private static void test() {

@@ -69,6 +69,11 @@ public final class FuseMinutesTexts {
         D.due("blanks", Dues.text(x, "\n burn\n;  minute 3\n\n; "), 2);
         D.due("no blanks", Dues.text(x, "cord1price2;minute3;left0;lights rest+1<1"), -1);
         D.due("no blanks", Dues.text(x, "cord1price2;minute3;left0;lights(rest)+1;"), 3);
+        FuseMinutes y = Dues.with(3);
+        Dues.text(y, "lights 7; fails 5; $");
+        D.due("behind a FAULT", Dues.text(y, "burn;"), 0);
+        y.by(0);
+        D.due("nothing is left of it", y.law(0, false, true) * 10 + y.law(0, false, false), 10);
         Dues.tape(x, "burn$");
         D.due("the 5th", x.text(), -1);
         D.due("the tape stays", x.about(8), 5);
@@ -121,6 +126,7 @@ public final class FuseMinutesTexts {
         read("burnZ;", 1, 0);
         read("zburn;", 1, 0);
         read("Aburn;", 1, 0);
+        read("burnA;", 1, 0);
         read("burn;Z", 1, 5);
         read("lights 1Z;", 1, 8);
         read("lights 1{;", 1, 8);
