@@ -1101,20 +1101,16 @@ public final class FuseMinutes {
             } else {
                 next();
                 if (isLaw) {
-                    readLaw(kind);
+                    law = kind - LIGHTS;
+                    text.lawBegins[law] = text.length;
+                    readSum();
+                    text.lawEnds[law] = text.length;
+                    text.addClause(kind, 0, 0);
                 } else {
                     readAct(kind);
                 }
                 expect(';');
             }
-        }
-
-        private void readLaw(int kind) {
-            law = kind - LIGHTS;
-            text.lawBegins[law] = text.length;
-            readSum();
-            text.lawEnds[law] = text.length;
-            text.addClause(kind, 0, 0);
         }
 
         private void readAct(int kind) {
@@ -1324,26 +1320,22 @@ public final class FuseMinutes {
                 at++;
             }
             int word = LIGHTS;
-            int begins = 0;
+            int spelt = place;
+            boolean same = true;
             for (int i = 0; i < WORDS.length(); i++) {
-                if (WORDS.charAt(i) == ' ') {
-                    if (i - begins == at - place && spells(begins)) {
-                        return word;
-                    }
+                char sign = WORDS.charAt(i);
+                if (sign != ' ') {
+                    same = same && byteAt(spelt) == sign;
+                    spelt++;
+                } else if (same && spelt == at) {
+                    return word;
+                } else {
                     word++;
-                    begins = i + 1;
+                    spelt = place;
+                    same = true;
                 }
             }
             return NO_TOKEN;
-        }
-
-        private boolean spells(int begins) {
-            for (int i = 0; place + i < at && place + i < MOST_BYTES && begins + i < WORDS.length(); i++) {
-                if (bytes[place + i] != WORDS.charAt(begins + i)) {
-                    return false;
-                }
-            }
-            return true;
         }
 
         private int nextNumber() {
