@@ -610,6 +610,14 @@ final class EdgesOfPromises {
             row(3, 256, -1..0) = 1 1
             row(3, 320, -1..1) = 2 4 0
             row(2, 288, -1..0) = 1 6
+            row(3, 704, 0) = 2                  // what is asked between doesn't matter
+            cord(60, 5) = 2
+            spans(7, -1)
+            row(3, 704, 1) = 3
+            spans(6, -1)
+            row(3, 704, 1) = 3
+            row(1, 704, -1) = -2
+            row(3, 704, 0) = 2
             """);
         e.edge(27, "-2: none, there is none such, and for others.", "row(1, 64, {-1, 0}) = -2 !\n" + MUCH + """
             row(3, {255, 257, 833, 1, 15360}, {-1, 0}) = -2 !

@@ -41,7 +41,7 @@ public final class FuseMinutesEdges {
         open.forEach(FuseMinutesEdges::lookForUntested);
     }
 
-    /** What no sentence has taken, but for words between two of them. */
+    /** What no quoted sentence has. */
     private static void lookForUntested(String place, StringBuilder text) {
         for (String left : text.toString().split("_+")) {
             if (left.matches(".*[A-Za-z0-9].*")) {
