@@ -671,6 +671,12 @@ final class EdgesOfPromises {
             want({1, 256, 15360}) = -2 !
             want({0, 15361}) = -2 !
             want(-1) = 0
+            new
+            cord({2, 2, 2, 2}, 1)
+            4 x want(128)
+            part(0..3) = 1 2 4 8
+            want({1, 63, 15360}) = -2 !         // the 4th stays
+            part(0..3) = 1 2 4 8
             """);
         e.edge(31, "A BUNDLE: CORDS (price false; bits), PRICE (price true).", """
             bundle({false, true}) = 0 0 !

@@ -324,6 +324,12 @@ final class EdgesOfTerms {
             by(1) = true
             light(0, false) = 0         // 9 is below 10
             new
+            cord(5, 0)
+            text "fails lit*2;"
+            by(0) = true
+            light(0, false) = 1         // 1 isn't below 0: the end that is lit burns not yet
+            light(0, true) = 1          // 3 isn't below 2
+            new
             shifts(8175, 1) = 0
             is(1) = 0                   // the lowest X
             cord(5, 0) = 0
