@@ -212,6 +212,14 @@ final class EdgesOfPromises {
             cord(5, 5) = 0
             by(1) = true
             law(0, false, {true, false}) = 7 0
+            text "lights 6+-twos 1$" = -1
+            text "lights 5;" = 2
+            by(2) = true
+            law(0, false, true) = 5             // nor of its law, behind the end of this one
+            text "lights -1$" = -1
+            text "lights 6;" = 3
+            by(3) = true
+            law(0, false, true) = 6
             """);
         e.edge(7, "Of the latest text that was read: 0 its FAULT (0 without), 1 its place (NONE without).", """
             text "hands 9;" = -1
@@ -467,9 +475,8 @@ final class EdgesOfPromises {
             of(0, 0..4) = 7 42 0 0 0
             """);
         e.edge(17, "NONE for others.", MUCH + """
-            of({2, 3, 4, -1, BIG, LOW}, 0..4) = -1
+            of({2, 3, 4, -1, BIG, LOW}, 0..4) = -1 !
             of({0, 1}, {5, -1, BIG, LOW}) = -1 !
-            of({2, -1}, {0, 4}) = -1 !
             """);
         e.edge(18, "lights (lights true), fails now.", """
             cord({5, 6}, 7) = 0 1
@@ -485,8 +492,7 @@ final class EdgesOfPromises {
             law(0..1, {false, true}, false) = 1 1 3 3
             """);
         e.edge(18, "-100 for others.", "law(0, false, {false, true}) = -100 !\n" + MUCH + """
-            law({2, 3, 4, -1, BIG, LOW}, {false, true}, {false, true}) = -100
-            law({2, -1}, false, {false, true}) = -100 !
+            law({2, 3, 4, -1, BIG, LOW}, {false, true}, {false, true}) = -100 !
             """);
     }
 
@@ -524,9 +530,8 @@ final class EdgesOfPromises {
             book(0, 0..3) = 639936 3 0 1
             """);
         e.edge(20, "-2 if there is none such, and for others.", "book(0, 0..3) = -2 !\n" + MUCH + """
-            book({2, 3, 29, 30, -2, BIG, LOW}, 0..3) = -2
+            book({2, 3, 29, 30, -2, BIG, LOW}, 0..3) = -2 !
             book({0, 1}, {4, -1, BIG, LOW}) = -2 !
-            book(2, 0) = -2 !
             """);
     }
 
@@ -615,8 +620,9 @@ final class EdgesOfPromises {
             spans(7, -1)
             row(3, 704, 1) = 3
             spans(6, -1)
+            row(1, 704, -1) = -2                // of another set, the same SPAN
             row(3, 704, 1) = 3
-            row(1, 704, -1) = -2
+            spans(5, -1)
             row(3, 704, 0) = 2
             """);
         e.edge(27, "-2: none, there is none such, and for others.", "row(1, 64, {-1, 0}) = -2 !\n" + MUCH + """
@@ -836,12 +842,9 @@ final class EdgesOfPromises {
             tries(3, 2, 3, {false, true}) = 1906624 1953125
             """);
         e.edge(40, "NONE for others (0 .. 3; 0 .. 10; 1 .. 4).", MUCH + """
-            tries({-1, 4, 5, BIG, LOW}, {0, 10}, {1, 4}, {false, true}) = -1
-            tries({0, 3}, {-1, 11, BIG, LOW}, {1, 4}, {false, true}) = -1
-            tries({0, 3}, {0, 10}, {0, -1, 5, BIG, LOW}, {false, true}) = -1
-            tries({-1, 4}, 5, 2, true) = -1 !
-            tries(2, {-1, 11}, 2, true) = -1 !
-            tries(2, 5, {0, 5}, true) = -1 !
+            tries({-1, 4, 5, BIG, LOW}, {0, 10}, {1, 4}, {false, true}) = -1 !
+            tries({0, 3}, {-1, 11, BIG, LOW}, {1, 4}, {false, true}) = -1 !
+            tries({0, 3}, {0, 10}, {0, -1, 5, BIG, LOW}, {false, true}) = -1 !
             """);
     }
 
