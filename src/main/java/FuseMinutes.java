@@ -1373,6 +1373,9 @@ public final class FuseMinutes {
         }
 
         int valueOf(Text text, int law, int ofCord, int ofSide) {
+            if (!store.pit.has(ofCord)) {
+                return 0;
+            }
             cord = ofCord;
             side = ofSide;
             int top = 0;
@@ -1701,6 +1704,9 @@ public final class FuseMinutes {
         private boolean arrive(int moment) {
             for (int i = 0; i < moment; i++) {
                 int span = times[moment] - times[i];
+                if (span <= 0 || span > MOST_SPAN) {
+                    return false;
+                }
                 if (soughtSpan == 0) {
                     spans[walkedSet * SPAN_WORDS + span / 64] |= 1L << span % 64;
                 } else if (moment == lastMoment && span == soughtSpan) {
